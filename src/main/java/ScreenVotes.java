@@ -2,7 +2,7 @@
 public final class ScreenVotes {
     public static final int NONE = -1, BAD = -2, NOT = -3, FULL = -4;
 
-    private static final int FINE = 0;
+    private static final int FINE = 0, LEAST_INT = -2147483648;
 
     private final Sheets sheets;
     private final Panel panel;
@@ -257,12 +257,12 @@ public final class ScreenVotes {
 
     public int get(int s, int form, int i) {
         if (!isSheet(s) || !isForm(form)) {
-            return Integer.MIN_VALUE;
+            return LEAST_INT;
         }
         int finding = sheets.findingOfItem(s, form, i);
         if (finding != FINE) {
             sheets.found(finding);
-            return Integer.MIN_VALUE;
+            return LEAST_INT;
         }
         return sheets.items[s][i];
     }

@@ -95,7 +95,7 @@ public final class FaceTests {
             due("the file has no " + rule, m.find() ? m.group() : "", "");
         }
         Matcher library = Pattern.compile("\\b(Integer|Long|Math|System|Arrays)\\.(\\w+)").matcher(code);
-        Set<String> allowed = Set.of("Integer.MIN_VALUE", "Integer.bitCount", "Integer.compare", "Math.max", "System.arraycopy");
+        Set<String> allowed = Set.of("Integer.bitCount", "Integer.compare", "Math.max", "System.arraycopy");
         while (library.find()) {
             due("a known part of the library: " + library.group(), allowed.contains(library.group()), true);
         }

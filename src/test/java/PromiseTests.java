@@ -241,6 +241,10 @@ public final class PromiseTests {
         fault("v1a1a;v1a1a;v1a1a;v1a1a;v0", 23);
         fault("v1a1a;v1a1a;v1a1a;v1a1ax", 23);
         fault("v1a1a\u00ff", 5);
+        ScreenVotes x = new ScreenVotes();
+        typeText(x, "v12a12n");
+        typeText(x, "v1");
+        due("fault: nothing of a text before", x.fault(), 2);
     }
 
     private static void law() {
@@ -304,6 +308,10 @@ public final class PromiseTests {
         ties("n", 0b00001);
         ties("d", 0b01001);
         ties("s", 0b01001);
+        ScreenVotes full = withPlayers(3);
+        vote(full, 0, "y", "yn", "yn");
+        typeText(full, "v1a1a");
+        due("like ones behind a full row stay out", full.through(0), 1);
         yesSoFar();
         exactShares();
         onlyThoseWhoAreIn();
@@ -335,6 +343,9 @@ public final class PromiseTests {
         x.repeal();
         typeText(x, "v100a2s");
         due("two of like ones", x.through(0), 0b1001);
+        vote(x, 0, "y", "yy", "y", "y");
+        typeText(x, "v100a1s");
+        due("an earlier call leaves nothing behind", x.through(0), 0b0010);
     }
 
     private static void exactShares() {
@@ -368,6 +379,9 @@ public final class PromiseTests {
         vote(x, 1, "y", "n", "y");
         typeText(x, "v50a2n");
         due("chosen: two", x.chosen(), NONE);
+        typeText(x, "v1a3n;v1a2n;v1a1n");
+        vote(x, 2, "y", "n", "n");
+        due("chosen: player 0", x.chosen(), 0);
         typeText(x, "v50a2n;v50a1n");
         due("chosen: one", x.chosen(), 2);
         typeText(x, "v100a2n;v50a1n;v1a1a");
@@ -471,12 +485,20 @@ public final class PromiseTests {
         due("all: rounded down each time", x.all(1), 29);
         typeText(x, "v60a1n");
         due("all: one round", x.all(2), x.passes(2, 60));
+        typeText(x, "v60a1n;v60a1n");
+        due("all: by a million", x.all(2), 250000);
     }
 
     private static void doubt() {
         ScreenVotes x = new ScreenVotes();
         due("doubt: like shares go upwards", x.doubt(1, 1, 1, 1), 833333);
         due("doubt: at most", x.doubt(0, 2, 2, 0), 166666);
+        due("doubt: like shares of unlike sides go upwards", x.doubt(1, 2, 2, 4), 761904);
+        due("doubt: like shares the other way round", x.doubt(2, 4, 1, 2), 773809);
+        due("doubt: a greater share", x.doubt(3, 2, 1, 4), 261904);
+        due("doubt: a greater share of a small side", x.doubt(1, 0, 5, 5), 545454);
+        due("doubt: a smaller share of a great side", x.doubt(1, 9, 2, 0), 45454);
+        due("doubt: a smaller share, great numbers", x.doubt(5, 1, 15, 2), 616036);
         due("doubt: none with a screen, some without", x.doubt(0, 0, 3, 1), 1000000);
         due("doubt: none without", x.doubt(2, 1, 0, 0), 1000000);
         due("doubt: the rarest", x.doubt(15, 0, 0, 15), 0);
@@ -514,6 +536,21 @@ public final class PromiseTests {
         due("morning: no such round", x.morning(2, 0), BAD);
         due("morning: what -1", x.morning(0, -1), BAD);
         due("morning: what 5", x.morning(0, 5), BAD);
+        morningShares();
+    }
+
+    private static void morningShares() {
+        ScreenVotes x = withPlayers(6);
+        vote(x, 0, "yyn", "ynnnn", "nn", "yyn", "y", "-");
+        typeText(x, "v66a1n");
+        due("morning: 2 of 3 are 66 hundredths", x.morning(0, 0), 1);
+        due("morning: 1 of 5 are not", x.morning(0, 1), 2);
+        due("morning: 2 of 3 behind the half", x.morning(0, 2), 2);
+        due("morning: share of 1 2 2 0", x.morning(0, 4), x.doubt(1, 2, 2, 0));
+        due("morning: it is", x.morning(0, 4), 300000);
+        typeText(x, "v67a1n");
+        due("morning: 2 of 3 are not 67 hundredths", x.morning(0, 0), 0);
+        due("morning: nor behind the half", x.morning(0, 3), 1);
     }
 
     private static void trial() {
@@ -563,6 +600,13 @@ public final class PromiseTests {
         due("better: one week and like ones", x.better(2, 0), 1);
         due("better: like weeks, the sum of both", x.better(2, 1), 1);
         due("better: no week of both", x.better(3, 1), NONE);
+        ScreenVotes sums = withPlayers(2);
+        sums.trial(0);
+        sums.trial(1);
+        marks(sums, 0, 9, 1, 5);
+        marks(sums, 1, 1, 2, 5, 20);
+        due("better: the sum of all weeks of both", sums.better(0, 1), 1);
+        due("better: the lesser sum", sums.better(1, 0), 0);
         marks(x, 3, 1, 2);
         due("better: all are like", x.better(2, 3), NONE);
         int[][] bad = {{0, 0}, {-1, 0}, {0, -1}, {4, 0}, {0, 4}, {MOST, LEAST}};
