@@ -8,7 +8,8 @@ import java.util.TreeMap;
 import java.util.regex.Matcher;
 import java.util.regex.Pattern;
 
-/** Drawn runs of calls, answered by the class and by a second reading of the document that shares nothing with it. */
+/** Drawn runs of calls, answered by the class and by a second program that shares no code with it,
+ * though it takes unclear words of the document the same way. */
 public final class ModelTests {
     private static final int RUNS = 3000, CALLS = 500;
     private static final BigInteger MILLION = BigInteger.valueOf(1000000);
