@@ -607,22 +607,23 @@ public final class ScreenVotes {
             return readByte('a') || readByte('n') || readByte('d') || readByte('s');
         }
 
-        /** Takes all figures in a row as one number, so that one too long is at fault from its first figure on. */
+        /** A fourth figure is no part of a number, but what comes behind it; one that may not be stays unread. */
         private boolean readNumber(int most) {
-            int start = cursor;
-            int end = start;
+            int end = cursor;
             number = 0;
-            while (end < length && text[end] >= '0' && text[end] <= '9') {
-                if (end - start < MOST_FIGURES) {
-                    number = 10 * number + text[end] - '0';
-                }
+            for (int figures = 0; figures < MOST_FIGURES && isFigure(end); figures++) {
+                number = 10 * number + text[end] - '0';
                 end++;
             }
-            boolean fits = end - start <= MOST_FIGURES && number >= 1 && number <= most;
-            if (fits) {
+            boolean mayBe = number >= 1 && number <= most;
+            if (mayBe) {
                 cursor = end;
             }
-            return fits;
+            return mayBe;
+        }
+
+        private boolean isFigure(int at) {
+            return at < length && text[at] >= '0' && text[at] <= '9';
         }
     }
 

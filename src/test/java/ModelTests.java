@@ -107,8 +107,8 @@ public final class ModelTests {
             return had;
         }
 
-        static final String X = "(?:100|0?[1-9][0-9]|0{0,2}[1-9])(?![0-9])";
-        static final String Y = "(?:0?1[0-9]|0?2[0-4]|0{0,2}[1-9])(?![0-9])";
+        static final String X = "(?:100|0[1-9][0-9]|00[1-9]|(?:[1-9][0-9]|0?[1-9])(?![0-9]))";
+        static final String Y = "(?:01[0-9]|02[0-4]|00[1-9]|(?:1[0-9]|2[0-4]|0?[1-9])(?![0-9]))";
         static final String[] PARTS = {"v", X, "a", Y, "[ands]"};
 
         int fault() {
@@ -544,7 +544,7 @@ public final class ModelTests {
     }
 
     private void typeRound() {
-        String[] numbers = {"0", "1", "007", "24", "25", "40", "50", "51", "66", "75", "99", "100", "101", "0001", ""};
+        String[] numbers = {"0", "1", "007", "24", "25", "40", "50", "51", "66", "75", "99", "100", "101", "0001", "0024", "0505", "1000", "02412", ""};
         String letters = random.nextInt(20) == 0 ? "x" : String.valueOf("ands".charAt(random.nextInt(4)));
         String xs = random.nextInt(6) == 0 ? numbers[random.nextInt(numbers.length)] : String.valueOf(1 + random.nextInt(70));
         String ys = random.nextInt(6) == 0 ? numbers[random.nextInt(numbers.length)] : String.valueOf(1 + random.nextInt(8));
@@ -636,6 +636,35 @@ public final class ModelTests {
         }
     }
 
+    /** All rows of up to four figures, as x and as y, with a byte behind them or none. */
+    private static void allNumbers() {
+        ScreenVotes x = new ScreenVotes();
+        Model m = new Model();
+        for (int figures = 0; figures <= 4; figures++) {
+            int rows = (int) Math.pow(10, figures);
+            for (int row = 0; row < rows; row++) {
+                String number = figures == 0 ? "" : String.format("%0" + figures + "d", row);
+                sameFault(x, m, "v" + number);
+                sameFault(x, m, "v" + number + "a1s");
+                sameFault(x, m, "v1a" + number);
+                sameFault(x, m, "v1a" + number + "s");
+            }
+        }
+    }
+
+    private static void sameFault(ScreenVotes x, Model m, String text) {
+        x.repeal();
+        m.repeal();
+        for (int i = 0; i < text.length(); i++) {
+            x.type(text.charAt(i));
+            m.type(text.charAt(i));
+        }
+        if (x.fault() != m.fault()) {
+            wrong++;
+            System.out.println("fault of " + text + " = " + x.fault() + ", due is " + m.fault());
+        }
+    }
+
     private static void allChances() {
         ScreenVotes x = new ScreenVotes();
         Model m = new Model();
@@ -658,6 +687,7 @@ public final class ModelTests {
     public static void main(String[] args) {
         allTables();
         allChances();
+        allNumbers();
         for (int run = 0; run < RUNS && wrong == 0; run++) {
             new ModelTests(run).run();
         }
