@@ -1,3 +1,5 @@
+import java.util.Arrays;
+
 /** For each promise: ordinary inputs, the edges that the document names, wrong inputs. */
 public final class PromiseTests {
     private static final int LEAST = Integer.MIN_VALUE;
@@ -39,19 +41,31 @@ public final class PromiseTests {
         }
     }
 
+    /** The seed is sought without the object, as that is used for 512 calls at most. */
     private static void order(ScreenVotes x, int... players) {
-        int n = x.count(0);
         for (int seed = 0; seed < 100000; seed++) {
-            x.draw(seed);
-            int like = 0;
-            while (like < n && x.order(like) == players[like]) {
-                like++;
-            }
-            if (like == n) {
+            if (Arrays.equals(drawn(players.length, seed), players)) {
+                x.draw(seed);
                 return;
             }
         }
         due("a seed for the order", 0, 1);
+    }
+
+    private static int[] drawn(int players, int seed) {
+        int[] row = new int[players];
+        for (int i = 0; i < players; i++) {
+            row[i] = i;
+        }
+        int s = seed;
+        for (int i = players - 1; i > 0; i--) {
+            s = s * 1103515245 + 12345;
+            int j = ((s >> 16) & 0xffff) % (i + 1);
+            int t = row[i];
+            row[i] = row[j];
+            row[j] = t;
+        }
+        return row;
     }
 
     private static void newObject() {
@@ -117,18 +131,7 @@ public final class PromiseTests {
 
     private static void drawByHand(int seed) {
         ScreenVotes x = withPlayers(24);
-        int[] row = new int[24];
-        for (int i = 0; i < 24; i++) {
-            row[i] = i;
-        }
-        int s = seed;
-        for (int i = 23; i > 0; i--) {
-            s = s * 1103515245 + 12345;
-            int j = ((s >> 16) & 0xffff) % (i + 1);
-            int t = row[i];
-            row[i] = row[j];
-            row[j] = t;
-        }
+        int[] row = drawn(24, seed);
         due("draw(" + seed + ")", x.draw(seed), row[0]);
         for (int i = 0; i < 24; i++) {
             due("order(" + i + ") by seed " + seed, x.order(i), row[i]);
