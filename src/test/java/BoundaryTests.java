@@ -2,7 +2,6 @@ import java.lang.reflect.InvocationTargetException;
 import java.lang.reflect.Method;
 import java.util.ArrayList;
 import java.util.Arrays;
-import java.util.Collections;
 import java.util.HashMap;
 import java.util.List;
 import java.util.Map;
@@ -2357,25 +2356,31 @@ public final class BoundaryTests {
         x.trial(23);
         x.hear(1, 1, 1);
         due("Promise 32: as longs that wrap, of all 24", x.digest(), digestByCalls(x));
-        x.repeal();
-        due("Promise 32: chosen() (-3: NOT)", x.digest() % 31, digestByCalls(x) % 31);
+        ScreenVotes y = new ScreenVotes();
+        y.player(0);
+        due("Promise 32: chosen() (-3: NOT), of one PLAYER", y.digest(), digestByCalls(y));
+        due("Promise 32: the last two are chosen() and seat()", y.digest() - 31 * -3 - -1, digestBefore(y) * 31 * 31);
     }
 
     private static long digestByCalls(ScreenVotes x) {
+        return (digestBefore(x) * 31 + x.chosen()) * 31 + x.seat();
+    }
+
+    private static long digestBefore(ScreenVotes x) {
         List<Integer> each = new ArrayList<>();
         for (int what = 0; what <= 5; what++) {
             each.add(x.count(what));
         }
-        for (int i = 0; i < x.count(0); i++) {
+        int players = each.get(0);
+        for (int i = 0; i < players; i++) {
             each.add(x.order(i));
         }
-        for (int p = 0; p < each.get(0); p++) {
+        for (int p = 0; p < players; p++) {
             for (int r = 0; r < 4; r++) {
                 each.add(x.votes(p, r, 0));
                 each.add(x.votes(p, r, 1));
             }
         }
-        Collections.addAll(each, x.chosen(), x.seat());
         return each.stream().mapToLong(Integer::longValue).reduce(17, (h, v) -> 31 * h + v);
     }
 

@@ -47,6 +47,8 @@ public final class FaceTests {
                 due(m.getName() + " is public alone", Modifier.toString(m.getModifiers()), "public");
                 open.add(told(m));
             }
+            due("methods that are called " + m.getName(), Arrays.stream(c.getDeclaredMethods())
+                .filter(other -> other.getName().equals(m.getName())).count(), 1L);
         }
         due("the methods", open, new TreeSet<>(Arrays.asList(FACE)));
         Set<String> constants = new TreeSet<>();
@@ -113,21 +115,32 @@ public final class FaceTests {
         return sum + x.digest();
     }
 
-    /** Rows are made in the constructor alone: a run's calls add nothing to the room. */
+    private static long callMany(ScreenVotes[] objects) {
+        long sum = 0;
+        for (int k = 0; k < 15 * objects.length; k++) {
+            sum += callAll(objects[k / 15], k);
+        }
+        return sum;
+    }
+
+    private static ScreenVotes[] newObjects(int n) {
+        ScreenVotes[] objects = new ScreenVotes[n];
+        for (int i = 0; i < n; i++) {
+            objects[i] = new ScreenVotes();
+        }
+        return objects;
+    }
+
+    /** Rows are made in the constructor alone: a run's calls (480 for each object here) add nothing to the room. */
     private static void room() {
         com.sun.management.ThreadMXBean meter = (com.sun.management.ThreadMXBean) ManagementFactory.getThreadMXBean();
-        ScreenVotes x = new ScreenVotes();
-        long sum = 0;
-        for (int k = 0; k < 2000; k++) {
-            sum += callAll(x, k);
-        }
+        long sum = callMany(newObjects(200));
+        ScreenVotes[] objects = newObjects(1000);
         long id = Thread.currentThread().getId();
         long before = meter.getThreadAllocatedBytes(id);
-        for (int k = 0; k < 20000; k++) {
-            sum += callAll(x, k);
-        }
+        sum += callMany(objects);
         long made = meter.getThreadAllocatedBytes(id) - before;
-        due("20000 rounds of all calls make less than 100000 bytes (" + made + ", " + sum + ")", made < 100000, true);
+        due("15000 rounds of all calls make less than 100000 bytes (" + made + ", " + sum + ")", made < 100000, true);
     }
 
     public static void main(String[] args) throws IOException {

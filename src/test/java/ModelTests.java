@@ -11,7 +11,8 @@ import java.util.regex.Pattern;
 /** Drawn runs of calls, answered by the class and by a second program that shares no code with it,
  * though it takes unclear words of the document the same way. */
 public final class ModelTests {
-    private static final int RUNS = 3000, CALLS = 500;
+    /** An object is used for at most 512 calls; a step's longest row of calls fills a sheet for 24 players. */
+    private static final int RUNS = 4000, STEPS = 2000, MOST_CALLS = 512, LONGEST_STEP = 217;
     private static final BigInteger MILLION = BigInteger.valueOf(1000000);
     private static int wrong = 0;
 
@@ -109,7 +110,8 @@ public final class ModelTests {
 
         static final String X = "(?:100|0[1-9][0-9]|00[1-9]|(?:[1-9][0-9]|0?[1-9])(?![0-9]))";
         static final String Y = "(?:01[0-9]|02[0-4]|00[1-9]|(?:1[0-9]|2[0-4]|0?[1-9])(?![0-9]))";
-        static final String[] PARTS = {"v", X, "a", Y, "[ands]"};
+        static final Pattern[] PARTS = {Pattern.compile("v"), Pattern.compile(X), Pattern.compile("a"), Pattern.compile(Y),
+            Pattern.compile("[ands]"), Pattern.compile(";")};
 
         int fault() {
             int at = 0;
@@ -117,7 +119,7 @@ public final class ModelTests {
                 if (part % 6 == 5 && (at == text.length() || part == 23)) {
                     return at == text.length() ? -1 : at;
                 }
-                Matcher m = Pattern.compile(part % 6 == 5 ? ";" : PARTS[part % 6]).matcher(text).region(at, text.length());
+                Matcher m = PARTS[part % 6].matcher(text).region(at, text.length());
                 m.useTransparentBounds(true);
                 if (!m.lookingAt()) {
                     return at;
@@ -503,6 +505,7 @@ public final class ModelTests {
     private final ScreenVotes x = new ScreenVotes();
     private final Model m = new Model();
     private final StringBuilder told = new StringBuilder();
+    private int calls = 0;
 
     private ModelTests(long seed) {
         random = new Random(seed);
@@ -527,6 +530,7 @@ public final class ModelTests {
     }
 
     private void same(String call, long got, long want) {
+        calls++;
         told.append(call).append(" = ").append(got).append('\n');
         if (got != want) {
             wrong++;
@@ -615,16 +619,16 @@ public final class ModelTests {
             int k = random.nextInt(3) == 0 ? random.nextInt(512) : 0;
             same(call("player", k), x.player(k), m.player(k));
         }
-        for (int call = 0; call < CALLS && wrong == 0; call++) {
+        for (int step = 0; step < STEPS && calls < MOST_CALLS - LONGEST_STEP && wrong == 0; step++) {
             step();
         }
         same("count(6)", x.count(6), m.count(6));
     }
 
     private static void allTables() {
-        ScreenVotes x = new ScreenVotes();
         Model m = new Model();
         for (int t = 0; t < 65536; t += 7) {
+            ScreenVotes x = new ScreenVotes();
             int a = t & 15;
             int b = t >> 4 & 15;
             int c = t >> 8 & 15;
@@ -638,23 +642,21 @@ public final class ModelTests {
 
     /** All rows of up to four figures, as x and as y, with a byte behind them or none. */
     private static void allNumbers() {
-        ScreenVotes x = new ScreenVotes();
-        Model m = new Model();
         for (int figures = 0; figures <= 4; figures++) {
             int rows = (int) Math.pow(10, figures);
             for (int row = 0; row < rows; row++) {
                 String number = figures == 0 ? "" : String.format("%0" + figures + "d", row);
-                sameFault(x, m, "v" + number);
-                sameFault(x, m, "v" + number + "a1s");
-                sameFault(x, m, "v1a" + number);
-                sameFault(x, m, "v1a" + number + "s");
+                sameFault("v" + number);
+                sameFault("v" + number + "a1s");
+                sameFault("v1a" + number);
+                sameFault("v1a" + number + "s");
             }
         }
     }
 
-    private static void sameFault(ScreenVotes x, Model m, String text) {
-        x.repeal();
-        m.repeal();
+    private static void sameFault(String text) {
+        ScreenVotes x = new ScreenVotes();
+        Model m = new Model();
         for (int i = 0; i < text.length(); i++) {
             x.type(text.charAt(i));
             m.type(text.charAt(i));
@@ -666,12 +668,12 @@ public final class ModelTests {
     }
 
     private static void allChances() {
-        ScreenVotes x = new ScreenVotes();
-        Model m = new Model();
         for (int j = 1; j <= 9; j++) {
-            x.jurors(j);
-            m.jurors(j);
             for (int h = 0; h <= 100; h += 3) {
+                ScreenVotes x = new ScreenVotes();
+                Model m = new Model();
+                x.jurors(j);
+                m.jurors(j);
                 x.chance(0, h);
                 m.chance(0, h);
                 for (int share = 1; share <= 100; share += 9) {
@@ -684,10 +686,123 @@ public final class ModelTests {
         }
     }
 
+    /** Each call with the greatest of its arguments that may do, or could in some state. */
+    private static final String[] LIMITS = {"player 511", "jurors 9", "draw 65535", "order 23", "order 2", "votes 23 3 1",
+        "votes 2 3 1", "type 255", "repeal", "fault", "law 3 2", "law 1 2", "advance 3", "advance 1", "through 3",
+        "through 1", "chosen", "other 3", "chance 4 100", "passes 4 100", "all 4", "doubt 15 15 15 15", "morning 3 4",
+        "morning 1 4", "trial 23", "trial 2", "week 5 20", "week 1 20", "better 5 5", "better 1 1", "seat",
+        "hear 999999 99 4", "known 999999 2", "sheet 3 2 240", "lose 3", "put 3 2 239 127", "put 3 2 19 32767",
+        "get 3 2 239", "get 3 2 19", "copy 3 239 3 239 240", "copy 3 20 3 19 20", "count 6", "digest"};
+
+    private static final List<String> TELLING = List.of("order", "votes", "fault", "law", "advance", "through", "chosen",
+        "other", "passes", "all", "doubt", "morning", "better", "seat", "known", "get", "count", "digest");
+
+    /** Each call at its edges, just outside and far outside them, of an object that is new, in use, and full. */
+    private static void allEdges() {
+        for (String limit : LIMITS) {
+            String[] words = limit.split(" ");
+            int[] most = java.util.Arrays.stream(words).skip(1).mapToInt(Integer::parseInt).toArray();
+            for (int state = 0; state < 3; state++) {
+                ModelTests t = null;
+                for (int draw = 0; draw < 1 << 3 * most.length && wrong == 0; draw++) {
+                    if (t == null || t.calls > 400) {
+                        t = new ModelTests(0);
+                        t.bring(state);
+                    }
+                    boolean changed = t.atEdges(words[0], most, draw);
+                    t = changed ? null : t;
+                }
+            }
+        }
+    }
+
+    /** Three bits of the draw for each argument; tells whether the call did more than refuse or tell. */
+    private boolean atEdges(String name, int[] most, int draw) {
+        int[] a = new int[most.length];
+        for (int k = 0; k < a.length; k++) {
+            int top = most[k];
+            int[] edges = {Integer.MIN_VALUE, -1, 0, 1, top - 1, top, top + 1, Integer.MAX_VALUE};
+            a[k] = edges[draw >> 3 * k & 7];
+        }
+        long answer = both(name, a);
+        same("digest", x.digest(), m.digest());
+        same("count(6)", x.count(6), m.count(6));
+        return !TELLING.contains(name) && answer >= -1;
+    }
+
+    private void bring(int state) {
+        if (state > 0) {
+            boolean full = state == 2;
+            int players = full ? 24 : 3;
+            for (int k = 0; k < players; k++) {
+                both("player", new int[] {37 * k & 511});
+            }
+            for (int s = 0; s < (full ? 4 : 3); s++) {
+                both("sheet", new int[] {s, s % 3, full ? 240 : 20});
+                for (int i = s; i < (full ? 240 : 20); i += full ? 29 : 3) {
+                    both("put", new int[] {s, s % 3, i, i % 4 - 1});
+                }
+            }
+            String text = full ? "v50a3s;".repeat(9).substring(0, 60) : "v40a2d;v1a1s";
+            for (int i = 0; i < text.length(); i++) {
+                both("type", new int[] {text.charAt(i)});
+            }
+            for (int place = 0; place < (full ? 6 : 2); place++) {
+                both("trial", new int[] {place});
+                for (int w = 0; w < (full && place % 5 == 0 ? 10 : 2); w++) {
+                    both("week", new int[] {place, place + w});
+                }
+            }
+            for (int h = 0; h < (full ? 60 : 2); h++) {
+                both("hear", new int[] {h % 2, h, h % 5});
+            }
+        }
+    }
+
+    private long both(String name, int[] a) {
+        long want;
+        switch (name) {
+            case "player": same(call(name, a), x.player(a[0]), want = m.player(a[0])); break;
+            case "jurors": same(call(name, a), x.jurors(a[0]), want = m.jurors(a[0])); break;
+            case "draw": same(call(name, a), x.draw(a[0]), want = m.draw(a[0])); break;
+            case "order": same(call(name, a), x.order(a[0]), want = m.order(a[0])); break;
+            case "votes": same(call(name, a), x.votes(a[0], a[1], a[2]), want = m.votes(a[0], a[1], a[2])); break;
+            case "type": same(call(name, a), x.type(a[0]), want = m.type(a[0])); break;
+            case "repeal": same(call(name, a), x.repeal(), want = m.repeal()); break;
+            case "fault": same(call(name, a), x.fault(), want = m.fault()); break;
+            case "law": same(call(name, a), x.law(a[0], a[1]), want = m.law(a[0], a[1])); break;
+            case "advance": same(call(name, a), x.advance(a[0]), want = m.advance(a[0])); break;
+            case "through": same(call(name, a), x.through(a[0]), want = m.through(a[0])); break;
+            case "chosen": same(call(name, a), x.chosen(), want = m.chosen()); break;
+            case "other": same(call(name, a), x.other(a[0]), want = m.other(a[0])); break;
+            case "chance": same(call(name, a), x.chance(a[0], a[1]), want = m.chance(a[0], a[1])); break;
+            case "passes": same(call(name, a), x.passes(a[0], a[1]), want = m.passes(a[0], a[1])); break;
+            case "all": same(call(name, a), x.all(a[0]), want = m.all(a[0])); break;
+            case "doubt": same(call(name, a), x.doubt(a[0], a[1], a[2], a[3]), want = m.doubt(a[0], a[1], a[2], a[3])); break;
+            case "morning": same(call(name, a), x.morning(a[0], a[1]), want = m.morning(a[0], a[1])); break;
+            case "trial": same(call(name, a), x.trial(a[0]), want = m.trial(a[0])); break;
+            case "week": same(call(name, a), x.week(a[0], a[1]), want = m.week(a[0], a[1])); break;
+            case "better": same(call(name, a), x.better(a[0], a[1]), want = m.better(a[0], a[1])); break;
+            case "seat": same(call(name, a), x.seat(), want = m.seat()); break;
+            case "hear": same(call(name, a), x.hear(a[0], a[1], a[2]), want = m.hear(a[0], a[1], a[2])); break;
+            case "known": same(call(name, a), x.known(a[0], a[1]), want = m.known(a[0], a[1])); break;
+            case "sheet": same(call(name, a), x.sheet(a[0], a[1], a[2]), want = m.sheet(a[0], a[1], a[2])); break;
+            case "lose": same(call(name, a), x.lose(a[0]), want = m.lose(a[0])); break;
+            case "put": same(call(name, a), x.put(a[0], a[1], a[2], a[3]), want = m.put(a[0], a[1], a[2], a[3])); break;
+            case "get": same(call(name, a), x.get(a[0], a[1], a[2]), want = m.get(a[0], a[1], a[2])); break;
+            case "copy": same(call(name, a), x.copy(a[0], a[1], a[2], a[3], a[4]), want = m.copy(a[0], a[1], a[2], a[3], a[4])); break;
+            case "count": same(call(name, a), x.count(a[0]), want = m.count(a[0])); break;
+            case "digest": same(call(name, a), x.digest(), want = m.digest()); break;
+            default: throw new IllegalArgumentException(name);
+        }
+        return want;
+    }
+
     public static void main(String[] args) {
         allTables();
         allChances();
         allNumbers();
+        allEdges();
         for (int run = 0; run < RUNS && wrong == 0; run++) {
             new ModelTests(run).run();
         }
