@@ -131,7 +131,7 @@ public final class FaceTests {
         return objects;
     }
 
-    /** Rows are made in the constructor alone: a run's calls (480 for each object here) add nothing to the room. */
+    /** Rows are made in the constructor alone: a run's calls (some 450 for each object here) add nothing to the room. */
     private static void room() {
         com.sun.management.ThreadMXBean meter = (com.sun.management.ThreadMXBean) ManagementFactory.getThreadMXBean();
         long sum = callMany(newObjects(200));
