@@ -7,6 +7,8 @@ import java.lang.reflect.Modifier;
 import java.nio.file.Files;
 import java.nio.file.Path;
 import java.util.Arrays;
+import java.util.HashMap;
+import java.util.Map;
 import java.util.Set;
 import java.util.TreeSet;
 import java.util.regex.Matcher;
@@ -103,6 +105,47 @@ public final class FaceTests {
         }
     }
 
+    private static final int MOST_LINES = 60, MOST_DEEP = 8;
+    private static final Pattern HEAD = Pattern.compile("( +)(?:(?:public|private|static) )*\\w+(?:\\[\\])? (\\w+)\\(.*\\) \\{");
+
+    /** Methods of one name are taken as one: what is told so is never less than it is. */
+    private static Map<String, String> bodies(String code) {
+        Map<String, String> bodies = new HashMap<>();
+        String[] lines = code.split("\n");
+        for (int from = 0; from < lines.length; from++) {
+            Matcher head = HEAD.matcher(lines[from]);
+            if (head.matches() && !head.group().contains("else if")) {
+                int to = from + 1;
+                while (!lines[to].equals(head.group(1) + "}")) {
+                    to++;
+                }
+                due(head.group(2) + " is short", to + 1 - from <= MOST_LINES, true);
+                bodies.merge(head.group(2), String.join("\n", Arrays.asList(lines).subList(from + 1, to)), String::concat);
+            }
+        }
+        return bodies;
+    }
+
+    private static int depth(String method, Map<String, String> bodies, int open) {
+        int deepest = open;
+        Matcher call = Pattern.compile("\\b(\\w+)\\(").matcher(bodies.get(method));
+        while (open <= MOST_DEEP && call.find()) {
+            if (bodies.containsKey(call.group(1))) {
+                deepest = Math.max(deepest, depth(call.group(1), bodies, open + 1));
+            }
+        }
+        return deepest;
+    }
+
+    private static void shortAndShallow() throws IOException {
+        Map<String, String> bodies = bodies(Files.readString(SOURCE));
+        for (String method : FACE) {
+            String name = method.replaceAll("^\\w+ |\\(.*", "");
+            due(name + " is found in the file", bodies.containsKey(name), true);
+            due(name + " goes at most eight deep", bodies.containsKey(name) && depth(name, bodies, 1) <= MOST_DEEP, true);
+        }
+    }
+
     private static long callAll(ScreenVotes x, int k) {
         long sum = x.player(k & 511) + x.jurors(1 + k % 9) + x.draw(k) + x.order(k % 24) + x.votes(k % 24, k % 4, k % 2);
         sum += x.type("v50a3s;v1a2d".charAt(x.count(2) % 12)) + x.fault() + x.law(k % 4, k % 3) + x.advance(k % 4);
@@ -151,6 +194,7 @@ public final class FaceTests {
             staticFields(inside);
         }
         language();
+        shortAndShallow();
         room();
         System.out.println(wrong == 0 ? "the face and the rules are kept" : wrong + " rules are not kept");
         if (wrong != 0) {
